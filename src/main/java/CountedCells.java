@@ -888,7 +888,7 @@ public final class CountedCells {
             // The longer the part in front that stays, the earlier the picture.
             for (int i = Cells.POSITIONS - 1; i >= 0; i--) {
                 long bit = 1L << i;
-                if ((fillable & bit) != 0 && build(p, p.pinned | bit | bit - 1, p.filled | bit)) {
+                if ((fillable & bit) != 0 && build(p, p.pinned | bit | (bit - 1), p.filled | bit)) {
                     settle(false);
                     return true;
                 }
@@ -917,13 +917,11 @@ public final class CountedCells {
             if (!build(p, p.pinned, p.filled)) {
                 return 0;
             }
-            long changeable = free;
             long sureOnes = p.board();
             for (int i = 0; i < Cells.POSITIONS; i++) {
                 long bit = 1L << i;
-                if ((changeable & bit) != 0) {
-                    free = changeable & ~bit;
-                    sureOnes = change(i) ? sureOnes & ~bit : sureOnes;
+                if ((free & bit) != 0 && change(i)) {
+                    sureOnes &= ~bit;
                 }
             }
             return sureOnes;

@@ -170,6 +170,9 @@ public final class ViewTest {
         }
         CountedCells small = Checks.of("P12..:300");
         Checks.is("whyNot: more than the line has", 1, small.whyNot(0));
+        Checks.is("whyNot: just as many as the line has", 3, Checks.of("P12..:200").whyNot(0));
+        Checks.is("whyNot: just as many as are pinned", 3, Checks.of("P12%#:100").whyNot(0));
+        Checks.is("whyNot: a column", 2, Checks.of("P21%%:001").whyNot(2));
         for (int l : FAR) {
             Checks.failsUnchanged("whyNot(" + l + ")", Checks.INDEX, x, () -> x.whyNot(l));
         }
