@@ -1176,12 +1176,13 @@ public final class CountedCells {
         }
 
         private void forgetOldest() {
-            Picture oldest = states[0];
+            // The object of the oldest one wanders to the end, where it is used again.
             for (int i = 1; i < states.length; i++) {
+                Picture older = states[i - 1];
                 states[i - 1] = states[i];
+                states[i] = older;
             }
-            states[states.length - 1] = oldest;
-            many = states.length - 1;
+            many--;
         }
 
         int takeBack(Picture p) {

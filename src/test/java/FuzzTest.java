@@ -8,11 +8,13 @@ public final class FuzzTest {
     private final Random random;
     private final CountedCells mine = new CountedCells();
     private final Model due = new Model();
-    private String call = "";
+    private final long seed;
+    private int calls = 0;
     private int pending = 0;
     private String pendingText = "";
 
     private FuzzTest(long seed) {
+        this.seed = seed;
         random = new Random(seed);
     }
 
@@ -28,11 +30,15 @@ public final class FuzzTest {
         }
     }
 
+    /** False if the answers differ, or if the document promises nothing about one call more. */
     private boolean same(String name, Answer mineAnswer, Answer dueAnswer) {
-        call = name;
+        if (calls == CALLS) {
+            return false;
+        }
+        calls++;
         String got = answerOf(mineAnswer);
         String want = answerOf(dueAnswer);
-        Checks.is(name, want, got);
+        Checks.is("run " + seed + ", call " + calls + ": " + name, want, got);
         return want.equals(got);
     }
 
@@ -282,11 +288,9 @@ public final class FuzzTest {
     public static void main(String[] args) {
         for (int seed = 1; seed <= RUNS; seed++) {
             FuzzTest run = new FuzzTest(seed);
-            for (int n = 0; n < CALLS; n++) {
-                if (!run.step(n)) {
-                    System.out.println("in the run " + seed + " at " + n + ": " + run.call);
-                    break;
-                }
+            boolean goesOn = true;
+            for (int n = 0; goesOn; n++) {
+                goesOn = run.step(n);
             }
         }
         Checks.end();

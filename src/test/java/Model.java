@@ -219,7 +219,7 @@ final class Model {
             return left;
         }
 
-        /** In how many ways the rows from r on can be filled so that the columns get what is left. */
+        /** In how many ways the rows from r on can be filled: the columns get what is left. */
         long count(int r, int[] left) {
             int key = 0;
             for (int n : left) {

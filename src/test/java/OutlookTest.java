@@ -90,10 +90,6 @@ public final class OutlookTest {
         nearest("P33##.......:111111", 3);
         nearest("P22##..:1111", 2);
         nearest("P11#:00", 1);
-        for (String text : new String[] {ones(5), ones(6), "P22....:2120", "P11%:00"}) {
-            CountedCells x = Checks.of(text);
-            Checks.failsUnchanged("nearest of " + text, Checks.STATE, x, () -> x.nearest());
-        }
     }
 
     private static void bestExchange(String text, int due) {
